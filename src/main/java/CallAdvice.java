@@ -3,7 +3,9 @@ public final class CallAdvice {
     private static final int CLASSES = 8;
     private static final int METHODS = 16;
     private static final int NAMES = 10;
-    private static final int MARK_SETS = 16;
+    private static final int MARKS = 4;
+    private static final int MARK_SETS = 1 << MARKS;
+    private static final int MOST_TIMES = 5;
     private static final int MOST_CALLS = 20;
     private static final int MOST_FORMULAS = 6;
     private static final int MOST_TOKENS = 16;
@@ -280,11 +282,11 @@ public final class CallAdvice {
             case BY:
                 return a >= 0 && a < CLASSES;
             case MARK:
-                return a >= 0 && a <= 3;
+                return a >= 0 && a < MARKS;
             case DEEP:
                 return a >= 0 && a <= MOST_CALLS;
             case TIMES:
-                return a >= 1 && a <= 5;
+                return a >= 1 && a <= MOST_TIMES;
             default:
                 return true;
         }

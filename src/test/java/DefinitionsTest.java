@@ -70,6 +70,7 @@ public final class DefinitionsTest {
         }
         Check.due("2: derive(3, 2) in a call", -2, x.derive(3, 2));
         Check.due("2: derive(3, -1) in a call", -2, x.derive(3, -1));
+        Check.due("2: derive(0, -1) in a call", -2, x.derive(0, -1));
         x.giveBack();
         Check.due("2: derive(3, 1) after the call", -1, x.derive(3, 1));
         Check.due("2: derive(3, -1) after the call", 1, x.derive(3, -1));
@@ -103,7 +104,8 @@ public final class DefinitionsTest {
                 Check.due("3: define(" + m + ", 8, 10, 16)", -1, x.define(m, 8, 10, 16));
             }
             int[][] wrong = {{-1, 0, 0}, {8, 0, 0}, {0, -1, 0}, {0, 10, 0}, {0, 0, -1}, {0, 0, 16},
-                {Integer.MIN_VALUE, 0, 0}, {0, Integer.MAX_VALUE, 0}, {0, 0, Integer.MIN_VALUE}};
+                {Integer.MIN_VALUE, 0, 0}, {0, Integer.MIN_VALUE, 0}, {0, 0, Integer.MIN_VALUE},
+                {Integer.MAX_VALUE, 0, 0}, {0, Integer.MAX_VALUE, 0}, {0, 0, Integer.MAX_VALUE}};
             for (int[] w : wrong) {
                 Check.due("3: define(2, " + w[0] + ", " + w[1] + ", " + w[2] + ") in round " + round,
                         -3, x.define(2, w[0], w[1], w[2]));

@@ -13,6 +13,7 @@ public final class DraftTest {
         refusedAdviseKeepsTheDraft();
         adviseKeepsItsOwnFormula();
         dropTakesTheLast();
+        dropLeavesNothingBehind();
         dropRefuses();
         draftDuringCalls();
         Check.end();
@@ -239,6 +240,20 @@ public final class DraftTest {
         Check.due("7: the draft stays", 0, x.advise(1));
         Check.due("7: the time is the new one", 0, x.call(0));
         Check.due("7: the time is the new one, at the return", 1, x.giveBack());
+    }
+
+    private static void dropLeavesNothingBehind() {
+        CallAdvice x = new CallAdvice();
+        Check.advise(x, 0, Check.DEEP, 0);
+        Check.advise(x, 1, Check.DEEP, 0);
+        x.drop();
+        Check.due("7: the piece left is given", 1, x.call(0));
+        Check.due("7: the dropped piece is not given", 0, x.giveBack());
+        x.drop();
+        Check.advise(x, 0, Check.DEEP, 0, Check.NOT, 0);
+        x.drop();
+        Check.due("7: a shorter formula in its place", 0, Check.advise(x, 0, Check.DEEP, 0));
+        Check.due("7: the shorter formula alone counts", 65535, x.would(0));
     }
 
     private static void dropRefuses() {

@@ -99,6 +99,8 @@ public final class QuestionsTest {
         }
         Check.due("16: last(59) of 60", 0, x.last(59));
         Check.due("16: last(60) of 60", -1, x.last(60));
+        Check.due("16: last(61) of 60", -1, x.last(61));
+        Check.due("16: last(63) of 60", -1, x.last(63));
         x.call(0);
         Check.due("16: given()", 65, x.given());
         for (int k = 0; k < 64; k++) {
