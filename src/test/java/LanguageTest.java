@@ -1,4 +1,6 @@
 import java.io.IOException;
+import java.io.InputStream;
+import java.nio.charset.StandardCharsets;
 import java.nio.file.Files;
 import java.nio.file.Path;
 import java.util.ArrayList;
@@ -10,7 +12,7 @@ import java.util.TreeMap;
 import java.util.regex.Matcher;
 import java.util.regex.Pattern;
 
-/** Those rules of LANGUAGE.md that can be seen in the words of the program; the others are for its readers. */
+/** Those rules of LANGUAGE.md that can be seen in the program's words or when compiled; the others are for readers. */
 public final class LanguageTest {
     private static final Path SOURCE = Path.of("src/main/java/CallAdvice.java");
 
@@ -36,7 +38,22 @@ public final class LanguageTest {
         Check.that("methods are found", methods.size() > 17);
         methods.forEach(LanguageTest::method);
         deep(methods);
+        compiled();
         Check.end();
+    }
+
+    /** The names in the compiled class tell what its words may hide. */
+    private static void compiled() throws IOException {
+        String names;
+        try (InputStream in = CallAdvice.class.getResourceAsStream("CallAdvice.class")) {
+            names = new String(in.readAllBytes(), StandardCharsets.ISO_8859_1);
+        }
+        Check.that("no static field is worked out when the class is loaded", !names.contains("<clinit>"));
+        Check.that("nothing is made by a bootstrap method", !names.contains("BootstrapMethods"));
+        Matcher m = Pattern.compile("java/[\\w/]+").matcher(names);
+        while (m.find()) {
+            Check.due("the class " + m.group() + " of the library", 0, m.group().equals("java/lang/Object") ? 0 : 1);
+        }
     }
 
     private static void words(String body) {
